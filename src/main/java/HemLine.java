@@ -718,7 +718,7 @@ public final class HemLine {
 
         private int readNumber(int least, int most) {
             int number = tokens[at];
-            if (!within(number, least, most)) {
+            if (number < least || number > most) {
                 return NONE;
             }
             at++;
