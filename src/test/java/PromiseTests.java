@@ -133,7 +133,14 @@ public final class PromiseTests {
     }
 
     private static void set() {
-        Checks c = new Checks("6 set");
+        Checks c = new Checks("6 all are 0 at first");
+        HemLine f = Checks.follower(10);
+        Checks.walk(f, 11);
+        c.is("an inch isn't within SEAM 0", f.wears(0, 14), 0);
+        c.is("but paid at PRICE 0", f.wears(0, 15), 1);
+        c.is("wears(0, 2)", f.wears(0, 2), 11);
+        end(c);
+        c = new Checks("6 set");
         HemLine x = new HemLine();
         c.is("set(999, 9, 99)", x.set(999, 9, 99), true);
         c.is("set(0, 0, 0)", x.set(0, 0, 0), true);
@@ -292,6 +299,10 @@ public final class PromiseTests {
         c = new Checks("9 old");
         x = Checks.follower(10);
         Checks.walk(x, 20, 30, 40, 50);
+        Checks.tell(x, "to old 4 60;");
+        c.is("season 0", x.wears(0, 6), 10);
+        Checks.tell(x, "to old 5 60;");
+        c.is("none", x.wears(0, 6), 50);
         Checks.tell(x, "to old 3 60;");
         c.is("wears(0, 6)", x.wears(0, 6), 20);
         x.run(1);
@@ -323,7 +334,8 @@ public final class PromiseTests {
             {"stay if (coin<5;", 15}, {"stay if coin<5);", 14}, {"stay if coin<=5;", 13}, {"stay if coin<5 and;", 18},
             {"stay if not;", 11}, {"stay if coin<5 not coin<5;", 15}, {"Stay;", 0}, {"stay\t;", 4}, {"stays;", 0}, {"sta;", 0},
             {"to above -1;", 9}, {"to above 5 5;", 11}, {"stay 5;", 5}, {"stay if coin<5 if coin<5;", 15}, {";", 0}, {"seasons", 0},
-            {"stay if seasonx<5;", 8}, {"stay if (coin<5", 15}, {"stay;;", 5}, {"stay if \u00e9oin<5;", 8}};
+            {"stay if seasonx<5;", 8}, {"stay if (coin<5", 15}, {"stay;;", 5}, {"stay if \u00e9oin<5;", 8},
+            {"stayz;", 0}, {"ptay;", 0}, {"stay if coinz<5;", 8}, {"stay if join<5;", 8}};
         for (Object[] d : due) c.is((String) d[0], faultOf((String) d[0]), (Integer) d[1]);
         c.is("the 17th rule", faultOf(Checks.times("stay;", 16) + " stay;"), 81);
         c.is("anything for the 17th rule", faultOf(Checks.times("stay;", 16) + "5"), 80);
@@ -394,6 +406,10 @@ public final class PromiseTests {
         c.is("wears(0, 6)", x.wears(0, 6), 29);
         c.is("force(2)", x.force(2), false);
         c.is("force(-1)", x.force(-1), false);
+        c.is("count(3)", x.count(3), 0);
+        c.is("force(1)", x.force(1), true);
+        c.is("wears(0, 6)", x.wears(0, 6), 28);
+        x.force(0);
         c.is("count(3)", x.count(3), 0);
         c.is("a fault changes nothing", Checks.tell(x, "x"), -1);
         c.is("count(3)", x.count(3), 0);
@@ -502,7 +518,9 @@ public final class PromiseTests {
         y.person(1, 99, 30);
         y.law(0);
         y.run(60);
-        y.run(41);
+        y.run(40);
+        c.is("wears(0, 3)", y.wears(0, 3), 9900);
+        y.run(2);
         c.is("wears(0, 3)", y.wears(0, 3), 9999);
         end(c);
     }
@@ -574,6 +592,9 @@ public final class PromiseTests {
         c.is("round without a law", y.round(2, 0), -1);
         y = new HemLine();
         y.person(1, 0, 10);
+        y.law(0);
+        c.is("round(1, 0)", y.round(1, 0), 1);
+        c.is("round(100, 1)", y.round(100, 1), 1);
         y.shows(0, 20);
         y.shows(1, 15);
         Checks.tell(y, "to house 0 5 if length<20;to house 1 60;");
@@ -617,7 +638,21 @@ public final class PromiseTests {
         c.is("money is as it was", x.count(9), 7);
         int[][] wrong = {{0, 1, 1, 0}, {101, 1, 1, 0}, {9, 0, 1, 0}, {9, 21, 1, 0}, {9, 1, -1, 0}, {9, 1, 100, 0}, {9, 1, 1, 2}, {9, 1, 1, -1}};
         for (int[] w : wrong) c.is("wrong pushed", x.pushed(w[0], w[1], w[2], w[3]), -1);
+        c.is("turns of 21", x.pushed(100, 21, 0, 0), -1);
         c.is("turns of twenty", x.pushed(100, 20, 0, 0), 46);
+        HemLine z = new HemLine();
+        z.person(1, 0, 2);
+        z.shows(0, 60);
+        z.shows(1, 0);
+        Checks.tell(z, "to house 0 5 if money>50;to house 1 5;");
+        c.is("first the told one: 7, 12, 7, 2", z.pushed(100, 2, 99, 0), 4);
+        z.money(99);
+        c.is("first the told one: 0, 0, 5, 10, 5, 0", z.pushed(100, 2, 0, 0), 6);
+        z.money(0);
+        Checks.tell(z, "to house 0 5 if money>50;to house 1 3;");
+        // 7, 4, 9, 6 .. 59, 56, 60, 57, 60
+        c.is("in turns all along", z.pushed(100, 1, 99, 0), 57);
+        c.is("two long", z.pushed(100, 1, 99, 1), 2);
         HemLine y = new HemLine();
         y.law(0);
         c.is("pushed without people", y.pushed(2, 1, 1, 0), -1);
@@ -700,15 +735,26 @@ public final class PromiseTests {
         end(c);
         c = new Checks("18 led by the mean of the season ahead");
         HemLine y = new HemLine();
-        y.person(5, 0, 10);
+        y.person(5, 0, 26);
         y.person(3, 0, 20);
         y.sees(1, 0, true);
-        y.shows(0, 30);
-        y.shows(1, 16);
+        y.shows(0, 10);
+        y.shows(1, 24);
         Checks.tell(y, "to house 0 60 if rank=5;to house 1 60;");
         y.run(1);
-        // 20 to 16, while above went from 10 to 30
+        // 20 to 24, while above went from 26 to 10
         c.is("led(1, 0)", y.led(1, 0), 1);
+        end(c);
+        c = new Checks("18 as far off isn't nearer nor further");
+        HemLine z = new HemLine();
+        z.person(3, 9, 20);
+        for (int rank : new int[] {5, 1, 3}) z.person(rank, 0, 16);
+        for (int p = 1; p < 4; p++) z.sees(0, p, true);
+        z.shows(0, 12);
+        Checks.tell(z, "to house 0 60 if purse=9;");
+        z.run(2);
+        int[] none = {0, 0, 0, 1};
+        for (int i = 0; i < 4; i++) c.is("led(0, " + i + ")", z.led(0, i), none[i]);
         end(c);
     }
 
@@ -735,6 +781,18 @@ public final class PromiseTests {
         for (int[] w : wrong) c.is("wrong alone", x.alone(w[0], w[1], w[2]), -1);
         c.is("alone(60, 20, 0)", x.alone(60, 20, 0), 0);
         c.is("none are there", new HemLine().alone(1, 1, 0), 0);
+        HemLine y = new HemLine();
+        y.person(0, 0, 20);
+        y.person(1, 0, 22);
+        y.shows(0, 30);
+        Checks.tell(y, "to house 0 60 if rank=1;");
+        y.run(1);
+        c.is("a start now", y.alone(5, 20, 0), 2);
+        c.is("not taken yet", y.alone(5, 20, 1), 0);
+        y.shows(0, 22);
+        y.run(1);
+        c.is("taken at once", y.alone(5, 1, 1), 1);
+        c.is("left at once", y.alone(5, 1, 2), 1);
         end(c);
     }
 
@@ -761,6 +819,12 @@ public final class PromiseTests {
         HemLine y = Checks.follower(10);
         Checks.walk(y, 20, 10, 30, 10);
         c.is("of several the latest", y.like(1, 0), 2);
+        HemLine w = Checks.follower(50);
+        Checks.walk(w, 10, 5, 12, 50, 10);
+        c.is("by the lines ahead, too", w.like(2, 0), 1);
+        Checks.walk(w, 1, 1, 1, 1, 1, 1, 1, 1, 1);
+        c.is("like(10, 0)", w.like(10, 0), 13);
+        c.is("like(11, 0)", w.like(11, 0), -1);
         HemLine z = Checks.follower(20);
         Checks.walk(z, 0, 14);
         c.is("a guess below 0", z.like(1, 1), 0 + 1400 - 2000);
@@ -807,6 +871,12 @@ public final class PromiseTests {
         int[][] wrong = {{-1, 0}, {61, 0}, {10, 3}, {10, -1}};
         for (int[] w : wrong) c.is("wrong again", x.again(w[0], w[1]), -1);
         c.is("without people", new HemLine().again(10, 0), -1);
+        HemLine z = Checks.follower(0);
+        c.is("again(0, 0)", z.again(0, 0), 1);
+        c.is("a row of season 0", z.again(0, 1), 1);
+        Checks.walk(z, 20, 0);
+        c.is("again(0, 1)", z.again(0, 1), 2);
+        c.is("again(0, 2)", z.again(0, 2), 1);
         HemLine y = new HemLine();
         for (int i = 0; i < 10; i++) y.person(1, 1, i == 0 ? 11 : 10);
         c.is("less than 100 off", y.again(11, 0), 1);
@@ -953,6 +1023,11 @@ public final class PromiseTests {
         c.is("claim(1, 1)", z.claim(1, 1), 5);
         c.is("claim(4, 2)", z.claim(4, 2), 3);
         c.is("best()", z.best(), 1);
+        HemLine w = Checks.follower(10);
+        Checks.walk(w, 10);
+        w.money(1);
+        Checks.walk(w, 10, 10, 10, 10, 10, 10, 10, 10, 11);
+        c.is("the last lag", w.best(), 9);
         end(c);
     }
 
@@ -991,6 +1066,11 @@ public final class PromiseTests {
         c.is("off(2, 2)", y.off(2, 2), 2);
         c.is("off(1, 0)", y.off(1, 0), 1550);
         c.is("off(0, 1)", y.off(0, 1), 0);
+        HemLine z = new HemLine();
+        z.person(1, 0, 0);
+        z.plate(0, 0, 1);
+        z.plate(0, 0, 0);
+        c.is("above all that's worn", z.off(0, 2), 1);
         int[][] bad = {{-1, 0}, {4, 0}, {2, 3}, {2, -1}};
         for (int[] w : bad) c.is("wrong off", y.off(w[0], w[1]), -1);
         end(c);
@@ -1021,6 +1101,14 @@ public final class PromiseTests {
         }
         int[][] wrong = {{0, 0}, {7, 0}, {2, 1}, {2, 9}, {2, -1}, {0, 10}};
         for (int[] w : wrong) c.is("wrong shop", y.shop(w[0], w[1]), -1);
+        HemLine w = new HemLine();
+        for (int length : new int[] {0, 1, 60, 59}) w.person(1, 0, length);
+        w.law(0);
+        int[][] ends = {{2, 2, 0, 59}, {3, 1, 0, 1, 59}, {4, 0, 0, 1, 59, 60}, {1, 58 + 60, 1}};
+        for (int[] d : ends) {
+            c.is("shop(" + d[0] + ", 0)", w.shop(d[0], 0), d[1]);
+            for (int i = 0; i < d[0]; i++) c.is("shop(" + d[0] + ", " + (10 + i) + ")", w.shop(d[0], 10 + i), d[2 + i]);
+        }
         end(c);
         c = new Checks("32 shop by what people want");
         HemLine z = new HemLine();
@@ -1045,7 +1133,9 @@ public final class PromiseTests {
         Checks.tell(x, "to house 0 2;");
         c.is("read(0) in season 0", x.read(0), 0);
         c.is("of several the first", x.read(-1), 0);
-        x.run(25);
+        x.run(1);
+        c.is("two inches in season 1", x.read(0), 2);
+        x.run(24);
         c.is("two inches in each of the last twenty", x.read(0), 40);
         c.is("read(1)", x.read(1), 20);
         c.is("read(2)", x.read(2), 0);
@@ -1127,6 +1217,38 @@ public final class PromiseTests {
             c.is("the same goes on", x.wears(1, 3), 5);
             c.is("what was foretold is held", x.held(0, 2), 0);
         }
+        end(c);
+        c = new Checks("35 back to the people of an image, and others told then");
+        HemLine z = new HemLine();
+        z.person(7, 70, 10);
+        z.image();
+        z.person(3, 4, 20);
+        z.person(6, 5, 30);
+        z.sees(1, 0, true);
+        z.sees(2, 1, true);
+        Checks.tell(z, "to above 4;");
+        z.foretell(1);
+        z.foretell(2);
+        z.foretell(3);
+        z.image();
+        z.run(3);
+        z.foretell(4);
+        z.back(0);
+        c.is("count(0)", z.count(0), 1);
+        c.is("count(6)", z.count(6), 0);
+        c.is("person", z.person(2, 8, 40), 1);
+        int[] fresh = {2, 8, 40, 0, 0, 0};
+        for (int i = 0; i < 6; i++) c.is("wears(1, " + i + ")", z.wears(1, i), fresh[i]);
+        for (int i = 10; i < 16; i++) c.is("wears(1, " + i + ")", z.wears(1, i), 0);
+        c.is("line(0)", z.line(0), 2500);
+        c.is("back(1)", z.back(1), true);
+        int[][] kept = {{7, 70, 10, 0, 0, 0}, {3, 4, 20, 0, 0, 1}, {6, 5, 30, 0, 0, 2}};
+        for (int p = 0; p < 3; p++) for (int i = 0; i < 6; i++) c.is("wears(" + p + ", " + i + ")", z.wears(p, i), kept[p][i]);
+        int[] foretold = {1866, 1733, 1666};
+        for (int k = 0; k < 3; k++) c.is("held(" + k + ", 0)", z.held(k, 0), foretold[k]);
+        for (int k = 0; k < 3; k++) c.is("held(" + k + ", 1)", z.held(k, 1), k + 1);
+        z.run(3);
+        for (int k = 0; k < 3; k++) c.is("held(" + k + ", 3)", z.held(k, 3), 2000 - foretold[k]);
         end(c);
         c = new Checks("35 back, but laws, plates and the tape");
         HemLine y = new HemLine();
