@@ -286,6 +286,18 @@ public final class PromiseTests {
         c.is("no rule holds", worn("to alike 5 if season > 1;"), 30);
         c.is("lines and no blanks", worn("\n to\nalike 3if season=1;"), 27);
         end(c);
+        c = new Checks("9 above, below and alike by rank");
+        HemLine w = new HemLine();
+        int[] ranks = {5, 6, 9, 4, 0, 5};
+        for (int i = 0; i < 6; i++) w.person(ranks[i], 0, i * i);
+        for (int i = 1; i < 6; i++) w.sees(0, i, true);
+        String[] whoms = {"above", "below", "alike", "all"};
+        int[] means = {2, 12, 25, 11};
+        for (int i = 0; i < 4; i++) {
+            Checks.tell(w, "to " + whoms[i] + " 60;");
+            c.is(whoms[i], w.wears(0, 6), means[i]);
+        }
+        end(c);
         c = new Checks("9 from below the mean, held to 0");
         HemLine x = pair();
         x.sees(1, 0, true);
@@ -600,6 +612,34 @@ public final class PromiseTests {
         Checks.tell(y, "to house 0 5 if length<20;to house 1 60;");
         c.is("10, 15, 20, 15: behind the third", y.round(9, 0), 3);
         c.is("two long", y.round(9, 1), 2);
+        end(c);
+        c = new Checks("16 lengths of each one, not together");
+        y = new HemLine();
+        y.person(1, 0, 10);
+        y.person(1, 0, 20);
+        y.sees(0, 1, true);
+        y.sees(1, 0, true);
+        Checks.tell(y, "to all 60;");
+        c.is("10 and 20 change places", y.round(5, 0), 2);
+        end(c);
+        c = new Checks("16 a trial of a hundred behind the last season");
+        y = new HemLine();
+        y.person(1, 0, 0);
+        y.person(2, 0, 21);
+        y.sees(1, 0, true);
+        y.shows(0, 60);
+        y.law(0);
+        for (int i = 0; i < 5; i++) y.run(40);
+        // 60 SEASONS for the one below, then 39 for the other, then none
+        Checks.tell(y, "to house 0 1 if rank=1 or below=60;");
+        c.is("count(1)", y.count(1), 200);
+        c.is("round(99, 0)", y.round(99, 0), -1);
+        c.is("round(100, 0)", y.round(100, 0), 100);
+        c.is("round(100, 1)", y.round(100, 1), 1);
+        y.foretell(50);
+        c.is("held(0, 0)", y.held(0, 0), 7100 / 2);
+        c.is("held(0, 1)", y.held(0, 1), 250);
+        c.is("held(0, 2)", y.held(0, 2), -1);
         end(c);
         c = new Checks("16 a trial uses old, season, chance, coin, worn, and keeps none");
         y = new HemLine();
