@@ -3,10 +3,13 @@ import java.util.List;
 
 /** Runs of calls with told numbers, the same each time, on HemLine and on PlainHem: each answer must be the same. */
 public final class CompareTests {
-    private static final int RUNS = 60;
+    private static final int RUNS = 100;
     private static final int CALLS = 512;
+    /** The most calls that a LAW's text takes. */
+    private static final int LONGEST_TEXT = 40;
 
     private long state;
+    private int calls;
     private final HemLine hem = new HemLine();
     private final PlainHem plain = new PlainHem();
     private final List<String> told = new ArrayList<>();
@@ -48,28 +51,27 @@ public final class CompareTests {
 
     private String play(int run) {
         int people = draw(8) == 0 ? 16 : draw(10);
-        int calls = 0;
-        for (int i = 0; i < people; i++, calls++) {
+        for (int i = 0; i < people; i++) {
             String w = call(1);
             if (w != null) return w;
         }
-        for (int i = 0; i < people * 3; i++, calls++) {
+        for (int i = 0; i < people * 3; i++) {
             String w = call(2);
             if (w != null) return w;
         }
         boolean rich = draw(2) == 0;
-        while (calls < CALLS) {
+        while (calls <= CALLS - LONGEST_TEXT) {
             int op = 1 + draw(36);
             if (rich && draw(3) == 0) op = new int[] {4, 5, 12, 4, 5, 12, 8, 9}[draw(8)];
             if (op == 35 && draw(3) != 0) op = 12;
             String w = op == 8 || op == 9 && draw(3) > 0 ? tellLaw() : call(op);
-            calls += op == 8 ? 8 : 1;
             if (w != null) return w;
         }
         return null;
     }
 
     private String same(int op, String call, long got, long due) {
+        calls++;
         KINDS[2 * op + (due == -1 ? 1 : 0)]++;
         told.add(call);
         return got == due ? null : call + " answered " + got + ", due is " + due + " behind " + told;

