@@ -119,6 +119,21 @@ final class Checks {
         }
     }
 
+    /** What a LAW asks, of PERSON 0 in SEASON 1: LENGTH 30, PURSE 7, COIN 7, RANK 5, MONEY 44; sees 20 and 41 of RANK 9, 10 of RANK 2. */
+    static boolean holds(String any) {
+        HemLine x = new HemLine();
+        x.person(5, 7, 30);
+        x.person(9, 1, 20);
+        x.person(9, 1, 41);
+        x.person(2, 1, 10);
+        for (int p = 1; p < 4; p++) x.sees(0, p, true);
+        x.money(44);
+        x.shows(0, 60);
+        tell(x, "to house 0 1 if " + any + ";");
+        x.run(1);
+        return x.wears(0, 2) == 31;
+    }
+
     static String times(String part, int n) {
         StringBuilder all = new StringBuilder();
         for (int i = 0; i < n; i++) {

@@ -413,6 +413,17 @@ public final class EdgeImageTests {
         return x;
     }
 
+    /** Every question, by a number that is mostly such a one. */
+    private static void ask(HemLine x, int i, int what) {
+        switch (what) {
+            case -1: x.line(i); x.length(i, i); x.wears(i, 6); x.best(); x.read(i); x.count(i); break;
+            case 0: x.round(50 + i, i % 2); x.pushed(60, 3, 20 * i, 0); x.shop(i, 0); x.shop(i, 10); x.fault(); break;
+            case 1: x.led(i, 0); x.alone(5, 5, i); x.like(i, 1); x.street(i, 1); x.followed(i, 1); x.luck(i, 0); break;
+            case 2: x.claim(i, 2); x.off(i, 0); x.again(20 + i, 2); x.held(i, 2); x.behind(i, 0); x.wears(0, 10 + i); break;
+            default: x.count(10 + i); x.length(i, 30); x.street(-1, 0); x.held(0, i); x.round(100, 1); break;
+        }
+    }
+
     private static void full(Edge edge) {
         edge.of("a full object: what it holds", c -> {
             HemLine x = fullest();
@@ -454,6 +465,15 @@ public final class EdgeImageTests {
             c.is("read(NONE)", x.read(-1), 0);
             c.is("round(100, 1) or none", x.round(100, 1) >= -1, true);
             c.is("shop(6, 15)", x.shop(6, 15) > x.shop(6, 10), true);
+        });
+        edge.of("no question changes anything", c -> {
+            HemLine x = EdgePeopleTests.town();
+            HemLine twin = EdgePeopleTests.town();
+            for (HemLine y : new HemLine[] {x, twin}) for (int i = 0; i < 3; i++) y.run(9);
+            for (int i = -1; i < 5; i++) {
+                for (int what = -1; what < 4; what++) ask(x, i, what);
+            }
+            c.untouched("questions", x, twin);
         });
         edge.of("a full object still changes what may be changed", c -> {
             HemLine x = fullest();

@@ -537,34 +537,19 @@ public final class EdgeLawTests {
         });
     }
 
-    /** PERSON 0 in SEASON 1: LENGTH 30, PURSE 7, COIN 7, RANK 5, MONEY 44; sees 20 and 41 of RANK 9, 10 of RANK 2. */
-    private static boolean holds(String any) {
-        HemLine x = new HemLine();
-        x.person(5, 7, 30);
-        x.person(9, 1, 20);
-        x.person(9, 1, 41);
-        x.person(2, 1, 10);
-        for (int p = 1; p < 4; p++) x.sees(0, p, true);
-        x.money(44);
-        x.shows(0, 60);
-        Checks.tell(x, "to house 0 1 if " + any + ";");
-        x.run(1);
-        return x.wears(0, 2) == 31;
-    }
-
     private static void meanings(Edge edge) {
         edge.of("< is less than, > greater than, = the same", c -> {
             String[] words = {"season", "length", "purse", "coin", "rank", "money", "chance", "worn", "above", "below", "alike", "all"};
             int[] values = {1, 30, 7, 7, 5, 44, EdgePeopleTests.chances(1, 1)[0], 0, 30, 10, 0, 23};
             for (int i = 0; i < words.length; i++) {
                 for (int n = Math.max(0, values[i] - 1); n <= values[i] + 1; n++) {
-                    c.is(words[i] + "<" + n, holds(words[i] + "<" + n), values[i] < n);
-                    c.is(words[i] + ">" + n, holds(words[i] + ">" + n), values[i] > n);
-                    c.is(words[i] + "=" + n, holds(words[i] + "=" + n), values[i] == n);
+                    c.is(words[i] + "<" + n, Checks.holds(words[i] + "<" + n), values[i] < n);
+                    c.is(words[i] + ">" + n, Checks.holds(words[i] + ">" + n), values[i] > n);
+                    c.is(words[i] + "=" + n, Checks.holds(words[i] + "=" + n), values[i] == n);
                 }
-                c.is(words[i] + "<9999", holds(words[i] + "<9999"), true);
-                c.is(words[i] + ">9999", holds(words[i] + ">9999"), false);
-                c.is(words[i] + "<0", holds(words[i] + "<0"), false);
+                c.is(words[i] + "<9999", Checks.holds(words[i] + "<9999"), true);
+                c.is(words[i] + ">9999", Checks.holds(words[i] + ">9999"), false);
+                c.is(words[i] + "<0", Checks.holds(words[i] + "<0"), false);
             }
         });
         edge.of("9,999 is a NUMBER that COIN comes to", c -> {
@@ -590,20 +575,20 @@ public final class EdgeLawTests {
                 boolean b = (bits >> 1 & 1) != 0;
                 boolean d = (bits >> 2 & 1) != 0;
                 boolean e = bits >> 3 != 0;
-                c.is("or and or " + bits, holds(p + " or " + q + " and " + r + " or " + s), a || b && d || e);
-                c.is("and or and " + bits, holds(p + " and " + q + " or " + r + " and " + s), a && b || d && e);
-                c.is("and (or) and " + bits, holds(p + " and (" + q + " or " + r + ") and " + s), a && (b || d) && e);
-                c.is("not and not or " + bits, holds("not " + p + " and not(" + q + " or " + r + ") or " + s), !a && !(b || d) || e);
-                c.is("not not and " + bits, holds("not not " + p + " and not(not " + q + " and not not not " + r + ")"), a && (b || d));
-                c.is("or (and (or (and))) " + bits, holds(p + " or(" + q + " and(" + r + " or(" + s + " and rank=5)))"), a || b && (d || e));
+                c.is("or and or " + bits, Checks.holds(p + " or " + q + " and " + r + " or " + s), a || b && d || e);
+                c.is("and or and " + bits, Checks.holds(p + " and " + q + " or " + r + " and " + s), a && b || d && e);
+                c.is("and (or) and " + bits, Checks.holds(p + " and (" + q + " or " + r + ") and " + s), a && (b || d) && e);
+                c.is("not and not or " + bits, Checks.holds("not " + p + " and not(" + q + " or " + r + ") or " + s), !a && !(b || d) || e);
+                c.is("not not and " + bits, Checks.holds("not not " + p + " and not(not " + q + " and not not not " + r + ")"), a && (b || d));
+                c.is("or (and (or (and))) " + bits, Checks.holds(p + " or(" + q + " and(" + r + " or(" + s + " and rank=5)))"), a || b && (d || e));
             }
         });
         edge.of("eight open, the widest", c -> {
             String wide = "rank=0 or rank=5 and (";
-            c.is("yes", holds(wide.repeat(8) + "rank=0 or rank=5 and rank=5" + ")".repeat(8)), true);
-            c.is("no", holds(wide.repeat(8) + "rank=0 or rank=5 and rank=0" + ")".repeat(8)), false);
-            c.is("not, eight times", holds("not ".repeat(8) + "rank=5"), true);
-            c.is("not, seven times", holds("not ".repeat(7) + "rank=5"), false);
+            c.is("yes", Checks.holds(wide.repeat(8) + "rank=0 or rank=5 and rank=5" + ")".repeat(8)), true);
+            c.is("no", Checks.holds(wide.repeat(8) + "rank=0 or rank=5 and rank=0" + ")".repeat(8)), false);
+            c.is("not, eight times", Checks.holds("not ".repeat(8) + "rank=5"), true);
+            c.is("not, seven times", Checks.holds("not ".repeat(7) + "rank=5"), false);
         });
     }
 

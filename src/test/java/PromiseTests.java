@@ -377,21 +377,6 @@ public final class PromiseTests {
         end(c);
     }
 
-    /** PERSON 0: SEASON 1, LENGTH 30, PURSE 7, COIN 7, RANK 5, MONEY 44; sees 20, 41 and 10 of ranks 9, 9 and 2. */
-    private static boolean holds(String any) {
-        HemLine x = new HemLine();
-        x.person(5, 7, 30);
-        x.person(9, 1, 20);
-        x.person(9, 1, 41);
-        x.person(2, 1, 10);
-        for (int i = 1; i < 4; i++) x.sees(0, i, true);
-        x.money(44);
-        x.shows(0, 60);
-        Checks.tell(x, "to house 0 1 if " + any + ";");
-        x.run(1);
-        return x.wears(0, 2) == 31;
-    }
-
     private static void conditions() {
         Checks c = new Checks("9 what a law asks");
         String[] yes = {"season=1", "length=30", "purse=7", "coin=7", "rank=5", "money=44", "worn=0", "above=30", "below=10", "alike=0",
@@ -400,8 +385,8 @@ public final class PromiseTests {
             "rank=5 or rank=4 and not rank=5", "season=1 and rank=5 and coin=7"};
         String[] no = {"length>30", "length<30", "season=1 and season=2 or season=3", "(season=1 or season=2) and season=3",
             "not season=1", "not(season=1 or rank=4)", "not season=1 and rank=5", "not not not season=1", "alike>0", "season=2 or rank=4"};
-        for (String any : yes) c.is(any, holds(any), true);
-        for (String any : no) c.is(any, holds(any), false);
+        for (String any : yes) c.is(any, Checks.holds(any), true);
+        for (String any : no) c.is(any, Checks.holds(any), false);
         end(c);
     }
 
