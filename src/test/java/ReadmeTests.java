@@ -128,7 +128,7 @@ public final class ReadmeTests {
                 wrong.append(" no ").append(named.group(1));
             }
         }
-        Matcher path = Pattern.compile("`((\\.\\./)?[a-zA-Z]+/[A-Za-z/.]+)`").matcher(text);
+        Matcher path = Pattern.compile("`([a-zA-Z]+/[A-Za-z/.]+)`").matcher(text);
         while (path.find()) {
             if (!new File(path.group(1)).exists()) {
                 wrong.append(" no ").append(path.group(1));
